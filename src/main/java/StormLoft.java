@@ -695,12 +695,13 @@ public final class StormLoft {
             switch (kindOf(m)) {
                 case HEAD:
                     return 9999;
+                case BARREL:
+                case SHEET:
+                    return 99;
                 case DRUM:
                     return 500;
-                case GATE:
-                    return 1;
                 default:
-                    return 99;
+                    return 1;
             }
         }
 
@@ -895,10 +896,21 @@ public final class StormLoft {
             begin(tape);
             for (int i = 0; i <= Tape.MOST && faultKind == 0; i++) {
                 tape.nextToken();
-                if (tape.kind == Tape.END && open == 0 && current == top) {
+                if (tape.isWord("at")) {
+                    readUse(tape, machines);
+                } else if (tape.isWord("times")) {
+                    readTimes(tape);
+                } else if (tape.isWord("play")) {
+                    readPlay(tape);
+                } else if (tape.isWord("storm")) {
+                    readStorm(tape);
+                } else if (tape.isWord("end")) {
+                    close(tape);
+                } else if (tape.kind == Tape.END && open == 0 && current == top) {
                     break;
+                } else {
+                    fail(1, tape.start);
                 }
-                readPart(tape, machines);
             }
             if (faultKind == 0 && tape.size > Tape.TEXT_MOST) {
                 fail(1, Tape.TEXT_MOST);
@@ -923,22 +935,6 @@ public final class StormLoft {
             if (faultKind == 0) {
                 faultKind = kind;
                 faultPlace = place;
-            }
-        }
-
-        private void readPart(Tape tape, Machines machines) {
-            if (tape.isWord("at")) {
-                readUse(tape, machines);
-            } else if (tape.isWord("times")) {
-                readTimes(tape);
-            } else if (tape.isWord("play")) {
-                readPlay(tape);
-            } else if (tape.isWord("storm")) {
-                readStorm(tape);
-            } else if (tape.isWord("end")) {
-                close(tape);
-            } else {
-                fail(1, tape.start);
             }
         }
 
@@ -1352,12 +1348,13 @@ public final class StormLoft {
             still = true;
             Arrays.fill(gates, 0);
             int e = 0;
-            for (now = 0; now <= LAST; now++) {
+            for (int t = 0; t <= LAST; t++) {
+                now = t;
                 if (!still) {
                     rollAll(runs);
                     bumpAll();
                 }
-                while (e < plan.size && plan.tickOf(e) <= now) {
+                while (e < plan.size && plan.tickOf(e) <= t) {
                     use(plan.machineOf(e), plan.numberOf(e), machines);
                     e++;
                 }
@@ -1392,6 +1389,9 @@ public final class StormLoft {
         }
 
         private void bumpAll() {
+            if (allAreAlike()) {
+                return;
+            }
             for (int i = 0; i < letGo && i < EVENTS; i++) {
                 for (int j = i + 1; j < letGo && j < EVENTS; j++) {
                     Ball one = balls[i];
@@ -1403,6 +1403,20 @@ public final class StormLoft {
                     }
                 }
             }
+        }
+
+        /** Balls of one SPEED come no nearer to one another, which spares the look at all pairs. */
+        private boolean allAreAlike() {
+            int slowest = 1023;
+            int fastest = 0;
+            for (int i = 0; i < letGo && i < EVENTS; i++) {
+                Ball ball = balls[i];
+                if (ball != null && ball.place != PIT) {
+                    slowest = Math.min(slowest, ball.speed);
+                    fastest = Math.max(fastest, ball.speed);
+                }
+            }
+            return slowest >= fastest;
         }
 
         private void use(int m, int number, Machines machines) {
@@ -1519,14 +1533,25 @@ public final class StormLoft {
         /** The TICK in which the ball, as it is at a TICK, comes over the end of its BOARD; NONE: in none. */
         private int rollToEnd(Board board, int from, int last) {
             for (int t = from + 1; t <= last; t++) {
+                int before = ball.speed;
                 if (ball.rollsOver(board)) {
                     return t;
                 }
-                if (ball.isAtRest()) {
-                    return NONE;
+                if (ball.speed == before) {
+                    return glideToEnd(board, t, last);
                 }
             }
             return NONE;
+        }
+
+        /** A SPEED that a TICK leaves as it was stays on this BOARD, so that all its TICKS are one step. */
+        private int glideToEnd(Board board, int from, int last) {
+            if (ball.speed <= 0) {
+                return NONE;
+            }
+            int more = (board.parts - ball.part + ball.speed - 1) / ball.speed;
+            ball.part += more * ball.speed;
+            return from + more <= last ? from + more : NONE;
         }
 
         private static void layOn(Carpenter c, Board[] stock, Tape wishes, int depth) {
