@@ -19,6 +19,9 @@ final class EdgeCarpenterTest {
         latestLay();
         numbersOfWorn();
         noneHeard();
+        behindOneAnother();
+        knockOfOne();
+        speedOfOne();
         eachIsAKnock();
         noKnockWhenWorn();
         dropOfNothing();
@@ -320,6 +323,46 @@ final class EdgeCarpenterTest {
         Loft.due("a ball that stays", row(1, 0, 0, 9, 0).worn(0), 0);
     }
 
+    /** What was wished, laid and heard is nothing to the next call. */
+    private static void behindOneAnother() {
+        Loft l = stock(2, 16, 0, 4, 0, 2, 0, 0, 4, 0, 1, 30, 0, 9, 0);
+        l.run(0, 0, 1, 255, 1, 255, 255);
+        for (int i = 0; i < 3; i++) {
+            laid(l, 0, of(2), 2);
+            Loft.due("worn of none", l.worn(0), 0);
+            Loft.due("worn of one", l.worn(0, 6), 1);
+            laid(l, 0, of(1));
+            laid(l, 0, of(0, 0), 4, 5);
+            Loft.due("worn as it is", l.worn(0, 4, 5), 0);
+            laid(l, 100, of(2), 2, 4000);
+            Loft.due("none explains", l.worn(0, 3), -2);
+        }
+    }
+
+    /** DROP 1 at SPEED 64 knocks with 1, at SPEED 63 not at all. */
+    private static void knockOfOne() {
+        laid(stock(2, 16, 0, 1, 0), 0, of(0), 4);
+        laid(stock(1, 21, 0, 1, 0), 100, of(0), 3);
+        laid(stock(2, 16, 0, 1, 0), 100, of(0));
+        laid(stock(1, 21, 0, 1, 0), 0, of(0));
+        Loft.due("64", row(2, 16, 0, 1, 0).worn(0, 4), 0);
+        Loft.due("63", row(1, 21, 0, 1, 0).worn(0, 3), -2);
+    }
+
+    /**
+     * It comes with SPEED 1 to part 0 of BOARD 2 in TICK 49, in TICK 113 to BOARD 3: 31 and 61 parts in 2 TICKS, and
+     * a KNOCK with 8 in TICK 115.
+     */
+    private static void speedOfOne() {
+        Loft l = row(1, 1, 15, 0, 8, 1, 0, 0, 0, 8, 1, 0, 0, 0, 0, 1, 30, 0, 9, 0);
+        l.x.fall(0, 0, 0);
+        l.knocked(0, 115, 3, 8);
+        Loft.due("heard", l.worn(0, 115), 0);
+        Loft.due("a TICK ahead", l.worn(0, 114), -2);
+        Loft.due("a TICK later", l.worn(0, 116), -2);
+        laid(l, 0, of(0, 1, 1, 3), 115);
+    }
+
     /**
      * "EXPLAINS them, if each is the TICK of a KNOCK": PLACE 0 knocks in TICK 4, PLACE 1 in TICK 5, or in TICK 6, if
      * the step of PLACE 0 is worn.
@@ -368,8 +411,14 @@ final class EdgeCarpenterTest {
         Loft.due("both were seen", seen[0] > 0 && seen[1] > 0, true);
     }
 
-    /** "(0 at least)": a step of DROP 0 is as it was, and is of no set. */
+    /**
+     * "(0 at least)": a step of DROP 0 is as it was, and is of no set. It comes with SPEED 32 to part 32 in TICK 4: to
+     * the end of LENGTH 3 it takes 5 TICKS, from part 28 it would take 6.
+     */
     private static void dropOfNothing() {
+        Loft flat = row(2, 16, 0, 0, 8, 3, 0, 0, 9, 0);
+        Loft.due("in TICK 9", flat.worn(0, 9), 0);
+        Loft.due("in TICK 10", flat.worn(0, 10), -2);
         for (int length = 1; length <= 9; length++) {
             Loft l = row(2, 16, 0, 0, 0, length, 3, 0, 9, 0);
             int end = l.x.fall(0, 0, 0);

@@ -9,6 +9,7 @@ final class EdgeCrewTest {
         wayFromMachineToMachine();
         worth();
         fourMen();
+        notTheMostEvents();
         eachByOne();
         leastManNoneLast();
         firstByEvents();
@@ -143,6 +144,30 @@ final class EdgeCrewTest {
             }
             l.x.man(7);
         }
+    }
+
+    /** "the most WORTH together": one EVENT of more is ahead of many of less, and many of more ahead of it. */
+    private static void notTheMostEvents() {
+        Loft l = loft(0);
+        l.x.man(0);
+        for (int n = 1; n <= 12; n++) {
+            for (int worth = 1; worth <= 14; worth++) {
+                l.score("at 9 use 1 with " + worth + "; at 9 use 3 with 1;" + " at 10 use 3 with 1;".repeat(n > 1 ? 1 : 0)
+                    + (n > 2 ? " times " + (n - 2) + " every 1 at 11 use 3 with 1; end" : ""));
+                int busy = 4 * worth;
+                int others = Math.max(0, n - busy);
+                Loft.due("made of " + worth + " or " + n, l.x.made(), Math.max(n, worth + others));
+                Loft.due("who(0)", l.x.who(0), worth + others >= n ? 0 : -1);
+            }
+            l = loft(0);
+            l.x.man(0);
+        }
+        l.score("at 0 use 2 with 5; at 0 use 3 with 2; at 1 use 3 with 2; at 2 use 3 with 2;");
+        made(l, 6, -1, 0, 0, 0);
+        l.score("at 0 use 2 with 5; at 0 use 3 with 2; at 1 use 3 with 2; at 2 use 3 with 1;");
+        made(l, 5, 0, -1, -1, -1);
+        l.score("at 0 use 2 with 5; at 0 use 3 with 1; at 1 use 3 with 1; at 2 use 3 with 2;");
+        made(l, 5, 0, -1, -1, -1);
     }
 
     /** "each EVENT by one at most", and a man does one at a time. */

@@ -20,6 +20,7 @@ final class EdgeFallTest {
         gateBits();
         numbersOfKnock();
         latestFall();
+        eachFallForItself();
         Loft.close();
     }
 
@@ -328,6 +329,25 @@ final class EdgeFallTest {
             for (int what : whats) {
                 Loft.due("knock's what " + what, l.knock(0, what), Loft.THROWN);
             }
+        }
+    }
+
+    /** What a FALL has heard, jumped and come to is nothing to the next one. */
+    private static void eachFallForItself() {
+        Loft l = new Loft();
+        l.x.board(2, 30, 0, 9, 0);
+        l.x.board(1, 0, 0, 9, 0);
+        l.x.board(1, 8, 0, 0, 0);
+        l.run(0, 0, 1, 255, 1, 255, 255);
+        l.run(1, 1, 255, 255);
+        l.run(2, 2, 255, 255);
+        int[][] want = {{3, 1, 1, 90}, {-1, 0, 0, 0}, {4, 0, 0, 32}};
+        int[] order = {0, 1, 2, 1, 0, 2, 0};
+        for (int r : order) {
+            for (int what = 0; what <= 3; what++) {
+                Loft.due("fall(" + r + ", 0, " + what + ")", l.x.fall(r, 0, what), want[r][what]);
+            }
+            Loft.due("balls of " + r, l.x.balls(r, 0), r == 1 ? -2 : 0);
         }
     }
 

@@ -222,6 +222,11 @@ final class EdgeScoreTest {
             l.scored("storm " + longer + " end play " + longer + " at 0;", 0, 0);
             l.scored("play " + longer + " at 0;", -6, 3);
         }
+        String[] near = {"bt", "tend", "ttorm", "fnd", "vse", "xith", "uimes", "fvery", "qlay", "ay", "ens", "plaz"};
+        for (String word : near) {
+            l.scored("storm " + word + " end play " + word + " at 0;", 0, 0);
+            l.scored(word + " 1 use 2;", -1, 1);
+        }
         l.scored("storm ; end", -7, 1);
         l.scored("storm 7 end", -7, 1);
         l.scored("play ; at 0;", -6, 1);
@@ -476,6 +481,18 @@ final class EdgeScoreTest {
             }
             l = loft();
         }
+        for (int n = 22; n <= 27; n++) {
+            String storm = "storm a times 1 every 1 " + "at 0 use 2;".repeat(n) + "end end ";
+            boolean few = n <= 24;
+            String[] plays = {"play a at 0;", "storm b play a at 0; end play b at 0;", "times 1 every 1 play a at 0; end"};
+            for (String play : plays) {
+                String text = storm + play;
+                l.scored(text, few ? n : -1 - text.length(), few ? 0 : 4);
+            }
+            l.scored(storm, 0, 0);
+            String text = storm + "play a at 0; play a at 0;";
+            l.scored(text, -1 - text.length(), 4);
+        }
     }
 
     /** "or one behind TICK 4000". */
@@ -489,8 +506,8 @@ final class EdgeScoreTest {
                 text = "times 3 every " + later + " at " + (at - 1995) + " use 2; end";
                 late = 2 * later + at - 1995 > 4000;
                 l.scored(text, late ? -1 - text.length() : 3, late ? 4 : 0);
-                text = "storm a at " + at + " use 2; end storm b play a at " + later + "; end play b at " + (at % 2) + ";";
-                late = at + later + at % 2 > 4000;
+                text = "storm a at " + at + " use 2; end storm b play a at " + later + "; end play b at 3;";
+                late = at + later + 3 > 4000;
                 l.scored(text, late ? -1 - text.length() : 1, late ? 4 : 0);
             }
         }
