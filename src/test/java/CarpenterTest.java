@@ -100,17 +100,16 @@ final class CarpenterTest {
     /** Each set of worn steps is told from all that is heard with it, or a lesser one that explains it, too. */
     private static void wornSets() {
         int[][] boards = {{3, 9, 2, 9, 2}, {2, 5, 1, 4, 0}, {4, 3, 0, 7, 1}, {3, 12, 3, 1, 3}};
-        Model m = new Model();
-        Loft l = new Loft();
-        for (int[] b : boards) {
-            l.x.board(b[0], b[1], b[2], b[3], b[4]);
-            m.board(b[0], b[1], b[2], b[3], b[4]);
-        }
         int[] run = {0, 1, 255, 1, 2, 255, 2, 3, 255, 3, 4, 255, 0, 5, 255, 2, 6, 255, 1, 255, 255};
-        l.run(3, run);
-        m.run(3, run);
         int told = 0;
         for (int set = 0; set < 128; set++) {
+            Model m = new Model();
+            Loft l = new Loft();
+            for (int[] b : boards) {
+                stock(l, m, b);
+            }
+            l.run(3, run);
+            m.run(3, run);
             java.util.List<int[]> f = m.fall(m.runs[3], 0, set);
             int[] heard = new int[f.size() - 1];
             for (int k = 0; k < heard.length; k++) {
@@ -204,16 +203,17 @@ final class CarpenterTest {
 
     /** Behind BOARDS 0 to 2 the part is just 64, so that BOARD 3 is jumped. */
     private static void justJumped() {
-        Loft l = new Loft();
-        Model m = new Model();
-        stock(l, m, 4, 4, 2, 5, 2, 2, 11, 2, 9, 7, 6, 4, 0, 8, 8, 1, 1, 15, 9, 0, 2, 9, 1, 9, 3);
-        int jumped = 0;
-        for (int b = 0; b < 3; b++) {
-            l.run(0, b, 1, 1, 3, 255, 255);
-            jumped += l.x.fall(0, 0, 2);
-        }
-        Loft.due("JUMPED", jumped, 3);
+        int[] stock = {4, 4, 2, 5, 2, 2, 11, 2, 9, 7, 6, 4, 0, 8, 8, 1, 1, 15, 9, 0, 2, 9, 1, 9, 3};
         for (int wish = 1; wish < 40; wish++) {
+            Loft l = new Loft();
+            Model m = new Model();
+            stock(l, m, stock);
+            int jumped = 0;
+            for (int b = 0; b < 3; b++) {
+                l.run(0, b, 1, 1, 3, 255, 255);
+                jumped += l.x.fall(0, 0, 2);
+            }
+            Loft.due("JUMPED", jumped, 3);
             laysAsModel(l, m, 2, wish);
             laysAsModel(l, m, 3, wish, wish + 3);
         }

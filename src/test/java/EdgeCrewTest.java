@@ -216,6 +216,13 @@ final class EdgeCrewTest {
         made(l, 4, 0, 1, 0);
         l.score("at 20 use 0 with 1; at 25 use 1 with 1; at 26 use 0 with 1; at 30 use 1 with 1;");
         made(l, 4, 0, 1, 0, 1);
+        Loft far = new Loft();
+        far.x.machine(3, 8, 0, 0);
+        far.x.machine(3, 0, 0, 0);
+        far.x.man(5);
+        far.x.man(0);
+        far.score("at 10 use 1 with 2; at 10 use 1 with 2; at 12 use 0 with 1; at 15 use 0 with 2;");
+        made(far, 5, 0, -1, 1, 1);
         Loft one = new Loft();
         one.x.machine(3, 0, 0, 0);
         one.x.machine(3, 5, 0, 0);
@@ -257,9 +264,9 @@ final class EdgeCrewTest {
     }
 
     private static void numbersOfWho() {
-        Loft l = loft(0);
-        l.x.man(0);
         for (int n = 1; n <= 24; n++) {
+            Loft l = loft(0);
+            l.x.man(0);
             l.score("times 1 every 1 " + "at 0 use 2 with 1;".repeat(n - 1) + "at 1 use 3 with 9; end");
             made(l, n == 1 ? 9 : 10);
             Loft.due("the last EVENT", l.x.who(n - 1), 0);

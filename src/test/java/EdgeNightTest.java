@@ -26,6 +26,8 @@ final class EdgeNightTest {
         numbersOfSound();
         latestNight();
         throughAnew();
+        noBallsOfOtherNights();
+        otherKindsTurnNothing();
         Loft.close();
     }
 
@@ -155,11 +157,11 @@ final class EdgeNightTest {
     }
 
     private static void manyBallsOfOneHead() {
-        Loft l = new Loft();
-        l.x.board(1, 30, 0, 9, 0);
-        l.run(2, 0, 255, 255);
-        l.x.machine(0, 0, 2, 0);
         for (int n = 0; n <= 24; n++) {
+            Loft l = new Loft();
+            l.x.board(1, 30, 0, 9, 0);
+            l.run(2, 0, 255, 255);
+            l.x.machine(0, 0, 2, 0);
             l.score("at 3 use 0;".repeat(n));
             Loft.due("night of " + n, l.x.night(), 2 * n);
             told(l, n, n, 0, 2 * n, 9 * n);
@@ -562,6 +564,45 @@ final class EdgeNightTest {
         told(l, 1, 1, 0, 2, 9);
         Loft.due("the night of none", l.x.night(), 0);
         told(l, 0, 0, 0, 0, 0);
+    }
+
+    /** Balls that came to rest in one night are not there in the next one. */
+    private static void noBallsOfOtherNights() {
+        Loft l = new Loft();
+        l.x.board(1, 30, 0, 0, 0);
+        l.x.board(1, -9, 0, 0, 0);
+        l.x.board(1, 29, 0, 0, 0);
+        l.x.board(40, -9, 0, 0, 0);
+        l.run(0, 0, 1, 2, 1, 3, 3, 2, 3, 3, 3, 255, 255);
+        l.x.machine(0, 0, 0, 0);
+        l.x.machine(4, 0, 0, 0);
+        l.score("at 0 use 0; at 0 use 0; at 0 use 0; at 3 use 1; at 500 use 0;");
+        Loft.due("past three of them", l.x.night(), 8);
+        told(l, 4, 0, 3, 8, 17);
+        l.score("at 0 use 1; at 500 use 0;");
+        Loft.due("past none", l.x.night(), 2);
+        told(l, 1, 0, 0, 2, 2);
+        l.score("at 0 use 0; at 3 use 1; at 500 use 0;");
+        Loft.due("past one of them", l.x.night(), 4);
+        told(l, 2, 0, 1, 4, 7);
+    }
+
+    /** A SHEET, a DRUM and a BARREL whose numbers are those of a RUN and a PLACE neither turn a GATE nor let a ball go. */
+    private static void otherKindsTurnNothing() {
+        Loft l = new Loft();
+        l.x.board(1, 30, 0, 9, 0);
+        l.x.board(4, 0, 0, 9, 0);
+        l.run(1, 0, 1, 255, 1, 255, 255);
+        l.x.machine(0, 0, 1, 0);
+        l.x.machine(1, 0, 1, 1);
+        l.x.machine(2, 0, 1, 0);
+        l.x.machine(3, 0, 1, 0);
+        l.score("at 0 use 1; at 0 use 2; at 0 use 3; at 0 use 0 with 0; at 1 use 1; at 1 use 2; at 1 use 3;");
+        Loft.due("night", l.x.night(), 9);
+        told(l, 1, 1, 0, 9, 7 + 8 + 8);
+        l.score("at 0 use 1; at 0 use 2; at 0 use 3;");
+        Loft.due("no balls", l.x.night(), 3);
+        told(l, 0, 0, 0, 3, 3);
     }
 
     /** "THE NIGHT is gone through anew": by the RUNS that there are now, as often as one likes. */

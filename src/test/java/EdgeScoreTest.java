@@ -13,6 +13,7 @@ final class EdgeScoreTest {
         signs();
         wordLengths();
         numberLengths();
+        noTokens();
         names();
         brokenOff();
         places();
@@ -210,6 +211,27 @@ final class EdgeScoreTest {
         Loft.due("least NUMBER", l.event(0, 2), 0);
     }
 
+    /** What is no TOKEN is none of those that can come there. */
+    private static void noTokens() {
+        String[] none = {".", "a1", "1a", "abcdefghi", "12345", "A", "a1b2", ":"};
+        for (String n : none) {
+            Loft l = loft();
+            l.scored(n, -1, 1);
+            l.scored("at 1 use 2 " + n, -12, 1);
+            l.scored("at 1 use 2 with 3 " + n, -19, 1);
+            l.scored("at 1 use 2 with " + n + ";", -17, 1);
+            l.scored("at 1 use " + n + ";", -10, 1);
+            l.scored("at " + n + " use 2;", -4, 1);
+            l.scored("storm " + n + " end", -7, 1);
+            l.scored("storm a end play a at 0 " + n, -25, 1);
+            l.scored("storm a end play a " + n + " 0;", -20, 1);
+            l.scored("storm a " + n + " end", -9, 1);
+            l.scored("times " + n + " every 1 end", -7, 1);
+            l.scored("times 1 " + n + " 1 end", -9, 1);
+            l.scored("times 1 every 1 " + n, -17, 1);
+        }
+    }
+
     /** "NAME: a WORD, none of storm, end, at, use, with, times, every, play." */
     private static void names() {
         Loft l = loft();
@@ -237,13 +259,13 @@ final class EdgeScoreTest {
 
     /** "1 .. one that can't come (at it; the end: how many bytes there are)": a text broken off behind each TOKEN. */
     private static void brokenOff() {
-        Loft l = loft();
         String[] tokens = "storm a at 1 use 2 with 3 ; end times 2 every 5 play a at 7 ; end at 0 use 4 with 1 ;".split(" ");
         int[] events = {0, 10, 20, 27};
         int[] answers = {0, 0, 2, 3};
         String text = "";
         int stands = 0;
         for (int n = 0; n <= tokens.length; n++) {
+            Loft l = loft();
             text = n == 0 ? "" : text + " " + tokens[n - 1];
             boolean whole = stands < events.length && n == events[stands];
             for (String blanks : new String[] {"", " ", "\n\n"}) {
@@ -258,8 +280,8 @@ final class EdgeScoreTest {
 
     /** The same FAULT, with more and more blanks ahead of it and behind it. */
     private static void places() {
-        Loft l = loft();
         for (int n = 0; n < 40; n++) {
+            Loft l = loft();
             l.scored(blanks(n) + "foo" + blanks(n), -1 - n, 1);
             l.scored("at" + blanks(n), -3 - n, 1);
             l.scored("at" + blanks(n + 1) + "2001" + blanks(n), -4 - n, 2);
@@ -412,8 +434,8 @@ final class EdgeScoreTest {
 
     /** "A SCORE is a text of at most 600 bytes": "600, if there are more and no FAULT is ahead". */
     private static void sixHundredBytes() {
-        Loft l = loft();
         for (int n = 595; n <= 640; n++) {
+            Loft l = loft();
             l.scored("at 0 use 2;" + blanks(n - 11), n <= 600 ? 1 : -601, n <= 600 ? 0 : 1);
             l.scored(blanks(n - 11) + "at 0 use 2;", n <= 600 ? 1 : -601, n <= 600 ? 0 : 1);
             l.scored(blanks(n), n <= 600 ? 0 : -601, n <= 600 ? 0 : 1);
@@ -429,8 +451,8 @@ final class EdgeScoreTest {
 
     /** "TOKENS that begin ahead of it are read whole": each TOKEN's begin from 590 to 603. */
     private static void readWhole() {
-        Loft l = loft();
         for (int at = 590; at <= 603; at++) {
+            Loft l = loft();
             boolean ahead = at < 600;
             l.scored(blanks(at) + "abcdefghi", ahead ? -1 - at : -601, 1);
             l.scored(blanks(at - 6) + "storm abcdefghi", ahead ? -1 - at : -601, 1);
@@ -467,11 +489,13 @@ final class EdgeScoreTest {
     private static void twentyFourEvents() {
         Loft l = loft();
         for (int n = 1; n <= 27; n++) {
+            l = n % 9 == 0 ? loft() : l;
             String text = "at 0 use 2;".repeat(n);
             l.scored(text, n <= 24 ? n : -1 - text.length(), n <= 24 ? 0 : 4);
-            Loft.due("EVENTS", l.x.count(4), Math.min(n, 24));
+            Loft.due("fault", l.x.fault(), n <= 24 ? 0 : 4);
         }
         for (int n = 1; n <= 5; n++) {
+            l = loft();
             for (int times = 1; times <= 20; times++) {
                 String text = "times " + times + " every 1 " + "at 0 use 2;".repeat(n) + "end";
                 boolean few = n * times <= 24;
@@ -479,9 +503,9 @@ final class EdgeScoreTest {
                 text = "storm a times " + times + " every 1 at 0 use 2; end end " + "play a at 0;".repeat(n);
                 l.scored(text, few ? n * times : -1 - text.length(), few ? 0 : 4);
             }
-            l = loft();
         }
         for (int n = 22; n <= 27; n++) {
+            l = loft();
             String storm = "storm a times 1 every 1 " + "at 0 use 2;".repeat(n) + "end end ";
             boolean few = n <= 24;
             String[] plays = {"play a at 0;", "storm b play a at 0; end play b at 0;", "times 1 every 1 play a at 0; end"};
@@ -499,6 +523,7 @@ final class EdgeScoreTest {
     private static void tick4000() {
         Loft l = loft();
         for (int at = 1995; at <= 2000; at++) {
+            l = loft();
             for (int later = 1995; later <= 2000; later++) {
                 String text = "times 2 every " + later + " at 5 use 2; at " + at + " use 2; end";
                 boolean late = at + later > 4000;
@@ -511,6 +536,7 @@ final class EdgeScoreTest {
                 l.scored(text, late ? -1 - text.length() : 1, late ? 4 : 0);
             }
         }
+        l = loft();
         l.scored("at 0 use 2; times 3 every 2000 at 0 use 2; end", 4, 0);
         Loft.due("TICK of the last one", l.event(3, 0), 4000);
         l.scored("times 3 every 2000 at 1 use 2; end at 0 use 2;", -47, 4);

@@ -267,15 +267,14 @@ final class EdgeStockTest {
 
     /** "the tape's bytes (empty then, with a FAULT, too, here and below)". */
     private static void emptyThen() {
-        Loft l = new Loft();
         for (int board = 0; board < 2; board++) {
             for (int n = -1; n <= 5; n++) {
                 for (int size = 0; size <= 24; size++) {
+                    Loft l = new Loft();
+                    if (board > 0) {
+                        l.x.board(1, 8, 0, 0, 0);
+                    }
                     emptyBehind(l, n, size);
-                }
-                l = new Loft();
-                if (board > 0) {
-                    l.x.board(1, 8, 0, 0, 0);
                 }
             }
         }

@@ -182,6 +182,7 @@ final class ScoreTest {
         l.scored(filled("", 590) + "at 0 use 2;", -601, 1);
         l.scored(filled("", 589) + "at 0 use 2", -600, 1);
         l.scored(filled("", 592) + "at 0 use 2", -601, 1);
+        l = loft();
         l.scored(filled("", 596) + "atatatatatat", -597, 1);
         l.scored(filled("", 594) + "storm end", -601, 1);
         l.scored(filled("", 595) + "storm ends end", -601, 1);
