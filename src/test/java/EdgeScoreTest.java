@@ -564,6 +564,15 @@ final class EdgeScoreTest {
         numbers(l, 2, 4, 3, 1);
         l.scored("times 2 every 1 times 2 every 1 at 0 use 3 with 1; at 0 use 3 with 2; end end", 8, 0);
         numbers(l, 1, 2, 1, 2, 1, 2, 1, 2);
+        l.scored("times 2 every 5 at 0 use 3 with 1; at 5 use 3 with 2; end at 5 use 3 with 3;", 5, 0);
+        numbers(l, 1, 2, 1, 3, 2);
+        l.scored("times 3 every 5 at 0 use 3 with 1; at 5 use 3 with 2; end", 6, 0);
+        numbers(l, 1, 2, 1, 2, 1, 2);
+        l.scored("storm a at 5 use 3 with 1; times 2 every 5 at 0 use 3 with 2; at 5 use 3 with 3; end end "
+            + "at 5 use 3 with 4; play a at 0; at 0 use 3 with 5;", 7, 0);
+        numbers(l, 2, 5, 4, 1, 3, 2, 3);
+        l.scored("times 2 every 3 times 2 every 3 at 0 use 3 with 1; at 3 use 3 with 2; end at 0 use 3 with 3; end", 10, 0);
+        numbers(l, 1, 3, 2, 1, 1, 3, 2, 2, 1, 2);
         StringBuilder text = new StringBuilder();
         int[] falling = new int[24];
         for (int e = 0; e < 24; e++) {
